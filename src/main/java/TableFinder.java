@@ -713,7 +713,10 @@ public final class TableFinder {
 
         // -- made of a BLOCK
 
-        /** Whether what was found of a BLOCK has room; if not, what stands here is of no use. */
+        /**
+         * Whether what was found of a BLOCK has room; if not, what stands here is of no use. A BLOCK has
+         * fewer LINES than a TABLE may have ROWS, so that only CELLS can be too long.
+         */
         boolean fill(Block block, Found found) {
             columns = found.columns;
             rows = 0;
@@ -722,8 +725,12 @@ public final class TableFinder {
             }
             for (int k = 0; k < block.plainCount; k++) {
                 int row = rowOfLine(block, found, k);
-                if (rows > MAX_ROWS || !joinLine(block, found, k, row)) {
-                    return false;
+                for (int column = 0; column < columns; column++) {
+                    int from = pick(found.cuts, column);
+                    int to = pick(found.cuts, column + 1);
+                    if (!joinCell(block, k, from, to, slotOf(row, column))) {
+                        return false;
+                    }
                 }
             }
             return true;
@@ -752,17 +759,6 @@ public final class TableFinder {
                 place++;
             }
             return place;
-        }
-
-        private boolean joinLine(Block block, Found found, int k, int row) {
-            for (int column = 0; column < columns; column++) {
-                int from = pick(found.cuts, column);
-                int to = pick(found.cuts, column + 1);
-                if (!joinCell(block, k, from, to, slotOf(row, column))) {
-                    return false;
-                }
-            }
-            return true;
         }
 
         private boolean joinCell(Block block, int k, int from, int to, int slot) {
