@@ -44,6 +44,7 @@ final class PageTest {
         TableFinder x = new TableFinder();
         CHECK.due("n 0", x.type(65, 0), -1);
         CHECK.due("n 9", x.type(65, 9), -1);
+        CHECK.due("n 9 with eight good bytes", x.type(Check.word("12345678"), 9), -1);
         CHECK.due("n -1", x.type(65, -1), -1);
         CHECK.due("n least", x.type(65, Integer.MIN_VALUE), -1);
         CHECK.due("byte 31", x.type(31, 1), -1);

@@ -97,33 +97,12 @@ final class ReadingTest {
         CHECK.due("4 for two, 5 for one", x.find(0, 0), 2);
         CHECK.due("the first cut is least", Check.cutsText(x), "0 1 4");
         CHECK.due("next as dear", x.told(1), 4);
-        // One COLUMN costs 2 + 6 gaps of 3; two cost 4 and what is left.
         TableFinder y = Check.pageOf("a  b", "c dd", "eeee");
         CHECK.due("one column: 5; two: cut 1 costs 10", y.find(0, 2), 1);
         CHECK.due("cost", y.told(0), 5);
         TableFinder z = Check.pageOf("ab   cd", "efg  hi");
         CHECK.due("two", z.find(0, 1), 2);
         CHECK.due("cut 3 is free for both, cut 2 is not", Check.cutsText(z), "0 3 7");
-        // Three COLUMNS by cuts 2 and 6 for 12, two by one of them for 13 (with the other's gaps), and one for 14.
-        TableFinder even = Check.pageOf("aa  bb  cc", "a bb ccc d");
-        CHECK.due("fewest columns of the cheapest", even.find(0, 1), columnsOfLeast(even, 0, 1, 10));
-    }
-
-    /** The fewest COLUMNS of the cheapest READINGS with up to three COLUMNS, by cost() itself. */
-    private static int columnsOfLeast(TableFinder x, int a, int b, int w) {
-        int least = x.cost(a, b, 0, 0);
-        int columns = 1;
-        for (int one = 1; one < w; one++) {
-            for (int two = one; two < w; two++) {
-                int cost = x.cost(a, b, 1 << one | 1 << two, 0);
-                int some = one == two ? 2 : 3;
-                if (cost < least || cost == least && some < columns) {
-                    least = cost;
-                    columns = some;
-                }
-            }
-        }
-        return columns;
     }
 
     private static void next() {
@@ -134,6 +113,13 @@ final class ReadingTest {
         CHECK.due("cut through", x.told(1), 10);
         CHECK.due("w is 3", x.find(2, 2), 1);
         CHECK.due("two columns", x.told(1), 4);
+        TableFinder y = Check.pageOf("a   b", "cc  dd");
+        CHECK.due("cuts 2, 3 and 4 are free", y.find(0, 1), 2);
+        CHECK.due("the best and the next have as many columns", y.told(1), 4);
+        TableFinder z = Check.pageOf("abc", "abc", "a  d");
+        CHECK.due("cut 3 alone is free", z.find(0, 2), 2);
+        CHECK.due("the least", z.told(0), 4);
+        CHECK.due("the next has one column", z.told(1), 2 + 3);
     }
 
     private static void findRefused() {

@@ -224,12 +224,11 @@ final class TableTest {
         CHECK.due("more", x.more(2, 2), 23);
         CHECK.due("25 lines", x.lay(), -3);
         CHECK.due("the page stays", x.kind(23), 2);
-        TableFinder wide = Check.pageOf("a".repeat(29) + "  " + "b".repeat(29), "",
-            "a".repeat(29) + "  " + "b".repeat(29), "c  " + " ".repeat(28) + "x", "",
-            "aa  b", "    " + "b".repeat(54), "    bbbbb", "", "aaa  b", "     " + "b".repeat(55));
+        layOfRulesRefused();
+        TableFinder wide = Check.pageOf("a".repeat(29) + "  " + "b".repeat(29));
         CHECK.due("find", wide.find(0, 0), 2);
         CHECK.due("60 wide", wide.lay(), 1);
-        TableFinder joined = Check.pageOf("aa  b", "    " + "b".repeat(54), "", "aaa  b", "     " + "b".repeat(55));
+        TableFinder joined = Check.pageOf("aa  b", "    " + "b".repeat(54));
         CHECK.due("find", joined.find(0, 1), 2);
         CHECK.due("2 + 2 + 56 wide", joined.lay(), 1);
         CHECK.due("line 0", Check.lineText(joined, 0), "aa  b " + "b".repeat(54));
@@ -237,6 +236,24 @@ final class TableTest {
         CHECK.due("find", over.find(0, 1), 2);
         CHECK.due("2 + 2 + 57 wide", over.lay(), -3);
         CHECK.due("the page stays", Check.lineText(over, 0), "aa  b");
+    }
+
+    /** A RULE ahead of the BODY takes a LINE, too, if there is a FOOT and no HEAD. */
+    private static void layOfRulesRefused() {
+        TableFinder x = Check.pageOf("---", "b", "b", "b", "---", "f");
+        CHECK.due("find", x.find(0, 5), 1);
+        for (int rows = 6; rows <= 21; rows += 3) {
+            CHECK.due("more", x.more(0, 5), rows);
+        }
+        CHECK.due("24 lines", x.lay(), 24);
+        CHECK.due("more", x.more(21, 21), 22);
+        CHECK.due("its foot is empty", x.lay(), 22);
+        TableFinder y = Check.pageOf("---", "b", "b", "---", "f");
+        CHECK.due("find", y.find(0, 4), 1);
+        for (int rows = 4; rows <= 22; rows += 2) {
+            CHECK.due("more", y.more(0, 4), rows);
+        }
+        CHECK.due("25 lines", y.lay(), -3);
     }
 
     private static void layAndReadAgain() {
