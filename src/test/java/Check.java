@@ -66,6 +66,12 @@ final class Check {
         return finder;
     }
 
+    static TableFinder foundIn(String... lines) {
+        TableFinder finder = pageOf(lines);
+        finder.find(0, lines.length - 1);
+        return finder;
+    }
+
     /** A CELL as text; "?" if there is none. */
     static String cellText(TableFinder finder, int row, int column) {
         int length = finder.cell(row, column, -1);
@@ -88,14 +94,15 @@ final class Check {
         return text.toString();
     }
 
-    /** A LINE with all the bytes that set() takes to be its own. */
+    /** A LINE with all the bytes that are its own: those that set() changes, and changes back. */
     static String lineText(TableFinder finder, int line) {
         StringBuilder text = new StringBuilder();
-        for (int i = 0; i < 60; i++) {
-            int b = finder.at(line, i);
-            if (finder.set(line, i, b) == TableFinder.BAD) {
+        for (int i = 0; i < 64; i++) {
+            int b = finder.set(line, i, '?');
+            if (b == TableFinder.BAD) {
                 break;
             }
+            finder.set(line, i, b);
             text.append((char) b);
         }
         return text.toString();

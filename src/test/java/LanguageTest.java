@@ -7,7 +7,9 @@ import java.nio.file.Files;
 import java.nio.file.Path;
 import java.util.Arrays;
 import java.util.HashSet;
+import java.util.Map;
 import java.util.Set;
+import java.util.TreeMap;
 import java.util.TreeSet;
 import java.util.regex.Matcher;
 import java.util.regex.Pattern;
@@ -27,8 +29,10 @@ final class LanguageTest {
 
     public static void main(String[] args) throws IOException {
         face();
+        classesInside();
         text();
         madeInConstructors();
+        callsOfCalls();
         CHECK.end();
     }
 
@@ -68,13 +72,78 @@ final class LanguageTest {
         CHECK.due("its parameters", constructors[0].getParameterCount(), 0);
     }
 
+    /** Rules 1, 2, 5 and 11: what may stand in the classes, and how many of all. */
+    private static void classesInside() {
+        Class<?>[] inside = TableFinder.class.getDeclaredClasses();
+        CHECK.due("classes: too many", inside.length + 1 > 12 ? 1 : 0, 0);
+        membersOf(TableFinder.class);
+        for (Class<?> type : inside) {
+            int modifiers = type.getModifiers();
+            boolean hidden = !Modifier.isPublic(modifiers) && !Modifier.isProtected(modifiers);
+            CHECK.due(type + " is static and hidden", Modifier.isStatic(modifiers) && hidden ? 1 : 0, 1);
+            CHECK.due(type + " has classes inside", type.getDeclaredClasses().length, 0);
+            membersOf(type);
+            for (Method method : type.getDeclaredMethods()) {
+                boolean ofTheFace = FACE.contains(" " + method.getName() + "(") || FACE.startsWith(method.getName() + "(");
+                CHECK.due(method + " has a name of the face", ofTheFace ? 1 : 0, 0);
+            }
+        }
+    }
+
+    private static void membersOf(Class<?> type) {
+        int fields = 0;
+        for (Field field : type.getDeclaredFields()) {
+            boolean constant = Modifier.isStatic(field.getModifiers());
+            fields += constant ? 0 : 1;
+            CHECK.due(field + ": static and not final", constant && !Modifier.isFinal(field.getModifiers()) ? 1 : 0, 0);
+            CHECK.due(field + ": a static array", constant && field.getType().isArray() ? 1 : 0, 0);
+        }
+        CHECK.due(type + ": too many fields", fields > 20 ? 1 : 0, 0);
+        for (Method method : type.getDeclaredMethods()) {
+            CHECK.due(method + ": too many parameters", method.getParameterCount() > 7 ? 1 : 0, 0);
+        }
+    }
+
+    private static String code() throws IOException {
+        String text = Files.readString(Path.of("src/main/java/TableFinder.java"));
+        return text.replaceAll("(?s)/\\*.*?\\*/", "").replaceAll("//[^\n]*", "");
+    }
+
+    /** Rules 8 and 11: no recursion, and calls at most eight deep. Methods of one name are taken for one. */
+    private static void callsOfCalls() throws IOException {
+        String code = code();
+        Map<String, Set<String>> calls = new TreeMap<>();
+        Matcher heads = Pattern.compile("(?m)^( {4}| {8})(?:[\\w\\[\\]]+ )*(\\w+)\\([^()]*\\) \\{$").matcher(code);
+        while (heads.find()) {
+            String body = code.substring(heads.end(), code.indexOf("\n" + heads.group(1) + "}\n", heads.end()));
+            Set<String> called = calls.computeIfAbsent(heads.group(2), name -> new TreeSet<>());
+            Matcher names = Pattern.compile("\\b(\\w+)\\(").matcher(body);
+            while (names.find()) {
+                called.add(names.group(1));
+            }
+        }
+        CHECK.due("methods were seen", calls.size() > 60 ? 1 : 0, 1);
+        for (String name : calls.keySet()) {
+            CHECK.due("depth of " + name + " is above eight", depth(calls, name, 1) > 8 ? 1 : 0, 0);
+        }
+    }
+
+    private static int depth(Map<String, Set<String>> calls, String name, int above) {
+        int deepest = above;
+        for (String called : calls.getOrDefault(name, Set.of())) {
+            boolean own = calls.containsKey(called) && above <= 8;
+            deepest = own ? Math.max(deepest, depth(calls, called, above + 1)) : deepest;
+        }
+        return deepest;
+    }
+
     private static void text() throws IOException {
         String text = Files.readString(Path.of("src/main/java/TableFinder.java"));
         for (int i = 0; i < text.length(); i++) {
             char c = text.charAt(i);
             CHECK.due("sign " + (int) c + " at " + i, c == '\n' || c >= 32 && c < 127 ? 1 : 0, 1);
         }
-        String code = text.replaceAll("(?s)/\\*.*?\\*/", "").replaceAll("//[^\n]*", "");
+        String code = code();
         for (String banned : BANNED) {
             String edge = Character.isLetter(banned.charAt(0)) && banned.matches("\\w+") ? "\\b" : "";
             Matcher matcher = Pattern.compile(edge + banned + edge).matcher(code);
@@ -88,6 +157,19 @@ final class LanguageTest {
         }
         CHECK.due("places with an array's element", count, 2);
         methodLengths(code);
+        libraryIn(code);
+    }
+
+    /** Rules 3, 4 and 10: numbers and arrays of them are all that the program works with. */
+    private static void libraryIn(String code) {
+        Matcher uses = Pattern.compile("\\b([A-Z]\\w*)\\.(\\w+)").matcher(code);
+        while (uses.find()) {
+            CHECK.due("use of " + uses.group(), uses.group().matches("Math[.](min|max)") ? 1 : 0, 1);
+        }
+        for (String word : new String[] {"double", "float", "String", "List", "Integer", "Iterator", "enum", "record", "interface"}) {
+            CHECK.due("use of " + word, code.matches("(?s).*\\b" + word + "\\b.*") ? 1 : 0, 0);
+        }
+        CHECK.due("texts", code.indexOf('"'), -1);
     }
 
     private static void methodLengths(String code) {
