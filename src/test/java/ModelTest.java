@@ -1,8 +1,10 @@
 /** Runs of pseudo-random calls (the same ones always), each answer compared with Model's. */
 final class ModelTest {
     private static final Check CHECK = new Check("ModelTest");
-    private static final int RUNS = 2500;
+    private static final int RUNS = 3500;
     private static final int CALLS = 512;
+    private static final int CALLS_OF_A_PAGE = 250;
+    private static final int CALLS_OF_A_BLOCK = 100;
     private static final String[] WORDS = {"oak", "elm tree", "a", "kg", "total", "of it", "x  y", "n", "--", "+", "red|blue", "="};
     private static final String[] NUMBERS = {"1", "12", "-1.5", "007", "999999.999", "0.25", "1234567", "3.", "-", "2"};
     private static final String[] BETWEEN = {"  ", " ", " | ", "|", "    ", "", "  "};
@@ -39,12 +41,12 @@ final class ModelTest {
         finder = new TableFinder();
         model = new Model();
         calls = 0;
-        while (calls < CALLS - 60 && CHECK.allRight()) {
+        while (calls < CALLS - CALLS_OF_A_PAGE - CALLS_OF_A_BLOCK && CHECK.allRight()) {
             if (below(3) > 0) {
                 typePage();
             }
             int blocks = 1 + below(5);
-            for (int i = 0; i < blocks; i++) {
+            for (int i = 0; i < blocks && calls < CALLS - CALLS_OF_A_BLOCK; i++) {
                 readSome();
                 lookAround();
                 readLaid();
