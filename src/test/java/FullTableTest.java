@@ -26,6 +26,7 @@ final class FullTableTest {
         fullCellOfOneColumn();
         laidWithEight();
         widestRowOfBlanks();
+        oneByteBesideFullLines();
         costsBehindMoreLines();
         partsBehindLaterLines();
         tablesBehindFullerOnes();
@@ -293,6 +294,28 @@ final class FullTableTest {
             CHECK.due("cuts", Check.cutsText(x), "0 1 " + width);
             CHECK.due("best", x.told(0), 4);
             CHECK.due("next", x.told(1), 4);
+        }
+    }
+
+    /** What a LINE costs is told by its own bytes alone, be the LINES beside it as full as they can be. */
+    private static void oneByteBesideFullLines() {
+        String full = "x".repeat(60);
+        for (int place = 0; place < 60; place++) {
+            String one = " ".repeat(place) + "a";
+            for (String[] lines : new String[][] {{one, full}, {full, one}, {full, one, full}}) {
+                TableFinder x = Check.pageOf(lines);
+                int last = lines.length - 1;
+                String name = "a at " + place + " of " + String.join("/", lines);
+                CHECK.due(name, x.cost(0, last, 0, 0), 2);
+                for (int cut = 1; cut < 60; cut++) {
+                    int low = cut < 32 ? 1 << cut : 0;
+                    int high = cut < 32 ? 0 : 1 << cut - 32;
+                    CHECK.due(name + ", cut " + cut, x.cost(0, last, low, high), 4 + (last == 2 ? 12 : 6));
+                }
+                CHECK.due(name + ": find", x.find(0, last), 1);
+                CHECK.due(name + ": best", x.told(0), 2);
+                CHECK.due(name + ": next", x.told(1), 4 + (last == 2 ? 12 : 6));
+            }
         }
     }
 

@@ -9,6 +9,7 @@ final class LayEdgesTest {
         ruleAsWideAsAll();
         partsThatAreLaid();
         widestCells();
+        widestCellInEachRow();
         leftAndRight();
         linesToTwentyFour();
         bytesToSixty();
@@ -60,6 +61,44 @@ final class LayEdgesTest {
         laid("hhh  i/------/a    x/------/f    g", "hhh  i", "---", "a    x", "---", "f    g");
         laid("h    i/------/a    x/------/fff  g", "h    i", "---", "a    x", "---", "fff  g");
         laid("a  1 2/b  w  ", "a  1", "   2", "b  w");
+    }
+
+    /** The HEAD is row 0, the FOOT row 19; the widest CELL of one COLUMN stands in one of them, or in one between. */
+    private static void widestCellInEachRow() {
+        for (int row = 0; row <= 19; row++) {
+            laidWithWidest(row, "kkkk", "vv");
+            laidWithWidest(row, "k", "vvvv");
+            laidWithWidest(row, "kkk", "2222");
+        }
+    }
+
+    private static void laidWithWidest(int widest, String key, String text) {
+        String[] lines = new String[22];
+        StringBuilder due = new StringBuilder();
+        boolean ofNumbers = text.charAt(0) == '2';
+        String rule = "-".repeat(key.length() + 2 + text.length());
+        for (int row = 0; row <= 19; row++) {
+            String left = row == widest ? key : "k";
+            String right = row == widest ? text : text.substring(0, 1);
+            String keyFill = " ".repeat(key.length() - left.length());
+            String textFill = " ".repeat(text.length() - right.length());
+            lines[row == 0 ? 0 : row == 19 ? 21 : row + 1] = left + "     ".substring(left.length()) + "  " + right;
+            due.append(row == 19 ? rule + "/" : "").append(left).append(keyFill).append("  ");
+            due.append(ofNumbers ? textFill + right : right + textFill).append(row == 0 ? "/" + rule + "/" : row < 19 ? "/" : "");
+        }
+        lines[1] = "---";
+        lines[20] = "---";
+        TableFinder x = Check.foundIn(lines);
+        CHECK.due("lay", x.lay(), lines.length);
+        String[] wanted = due.toString().split("/");
+        for (int line = 0; line < lines.length; line++) {
+            StringBuilder got = new StringBuilder();
+            for (int i = 0; i < rule.length(); i++) {
+                got.append((char) x.at(line, i));
+            }
+            CHECK.due("widest in row " + widest + ", line " + line, got.toString(), wanted[line]);
+            CHECK.due("its length", x.set(line, rule.length(), 'x'), -1);
+        }
     }
 
     /** "of WORDS CELLS begin at its left end, of NUMBERS (HEAD, FOOT, too) they end at its right end" */

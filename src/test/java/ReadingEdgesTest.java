@@ -326,6 +326,8 @@ final class ReadingEdgesTest {
         best("0 3 6", 4, 5, "abc", "a  def", "   ghi");
         best("0 2 4", 4, 4 + 6, "ab", "  cd", "a  d", "a  d", "a  d");
         best("0 2 4", 4, 2 + 9, "ab", "ab", "  cd", "  cd", "a  d", "a  d", "a  d");
+        best("0 2 4", 4, 4 + 6, "ab", "  cd", "  cd", "a  d", "a  d", "a  d");
+        best("0 2 4", 4, 4 + 6, "ab", "ab", "  cd", "a  d", "a  d", "a  d");
     }
 
     /** What was FOUND before leaves nothing behind in what is FOUND now. */
